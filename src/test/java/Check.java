@@ -1,8 +1,8 @@
-import java.util.function.IntSupplier;
+import java.util.function.Supplier;
+import java.util.function.ToIntFunction;
 
 /** What the tests share: answers that are due, told quays, refusals that change nothing else. */
 final class Check {
-    private static final int[] REFUSAL_NUMBERS = {-1, -2, -3, -4, -5, -6};
     private static int wrong = 0;
 
     private Check() {
@@ -43,40 +43,45 @@ final class Check {
         return x;
     }
 
-    static void refused(HangsAtLowWater x, String call, int number, IntSupplier answer) {
-        refusedAs(x, call, number, number, answer);
+    /** A call that is refused, on an object of its own: a life has 512 calls alone. */
+    static void refused(Supplier<HangsAtLowWater> made, String call, int number,
+            ToIntFunction<HangsAtLowWater> answer) {
+        refusedAs(made.get(), call, number, number, answer);
     }
 
-    static void refusedFar(HangsAtLowWater x, String call, int number, IntSupplier answer) {
-        refusedAs(x, call, number, 1000000000 - number, answer);
+    /** The same of a call whose answers may be below 0. */
+    static void refusedFar(Supplier<HangsAtLowWater> made, String call, int number,
+            ToIntFunction<HangsAtLowWater> answer) {
+        refusedAs(made.get(), call, number, 1000000000 - number, answer);
     }
 
-    private static void refusedAs(HangsAtLowWater x, String call, int number, int want, IntSupplier answer) {
+    private static void refusedAs(HangsAtLowWater x, String call, int number, int want,
+            ToIntFunction<HangsAtLowWater> answer) {
         int[] before = all(x);
         int[] countsBefore = refusals(x);
-        due(call, answer.getAsInt(), want);
+        due(call, answer.applyAsInt(x), want);
         int[] after = all(x);
         int[] countsAfter = refusals(x);
         for (int i = 0; i < before.length; i++) {
             due(call + ": of all that there is, number " + i, after[i], before[i]);
         }
         for (int i = 0; i < countsBefore.length; i++) {
-            int more = REFUSAL_NUMBERS[i] == number ? 1 : 0;
-            due(call + ": refusals " + REFUSAL_NUMBERS[i], countsAfter[i], countsBefore[i] + more);
+            int more = i + 1 == -number ? 1 : 0;
+            due(call + ": count of refusals -" + (i + 1), countsAfter[i], countsBefore[i] + more);
         }
     }
 
-    static int[] refusals(HangsAtLowWater x) {
+    private static int[] refusals(HangsAtLowWater x) {
         int[] counts = new int[6];
-        for (int i = 0; i < 6; i++) {
+        for (int i = 0; i < counts.length; i++) {
             counts[i] = x.count(11 + i);
         }
         return counts;
     }
 
     /** All that can be asked for without a refusal. */
-    static int[] all(HangsAtLowWater x) {
-        int[] rows = new int[12 + 24 + 12 + 35 + 36];
+    private static int[] all(HangsAtLowWater x) {
+        int[] rows = new int[12 + 24 + 12 + 35 + 3];
         int n = 0;
         for (int what = 0; what <= 10; what++) {
             rows[n++] = x.count(what);
@@ -96,9 +101,7 @@ final class Check {
             }
         }
         for (int ramp = 0; ramp < x.count(10); ramp++) {
-            for (int hour = 0; hour < 12; hour++) {
-                rows[n++] = x.slope(ramp, hour);
-            }
+            rows[n++] = x.slope(ramp, 0);
         }
         return rows;
     }
