@@ -122,27 +122,23 @@ public final class AgainstPlainModelTest {
         return m.hours(draw(m.count(0)), 0);
     }
 
-    private static String two(int v) {
-        return (char) ('0' + v / 10) + "" + (char) ('0' + v % 10);
-    }
-
     private static String statement(PlainModel m) {
         int rings = Math.max(1, m.count(1));
         switch (draw(8)) {
             case 0:
-            case 1: return "t" + two(draw(12)) + two(draw(draw(9) == 0 ? 43 : 41)) + ";";
-            case 2: return "w" + two(draw(12)) + "+-".charAt(draw(2)) + draw(10) + ";";
-            case 3: return "r" + two(draw(100)) + two(draw(draw(9) == 0 ? 64 : 61)) + ";";
+            case 1: return "t" + Check.two(draw(12)) + Check.two(draw(draw(9) == 0 ? 43 : 41)) + ";";
+            case 2: return "w" + Check.two(draw(12)) + "+-".charAt(draw(2)) + draw(10) + ";";
+            case 3: return "r" + Check.two(draw(100)) + Check.two(draw(draw(9) == 0 ? 64 : 61)) + ";";
             case 4: return boat(rings);
-            case 5: return "l" + draw(5) + two(draw(100)) + ";";
-            case 6: return "e" + two(draw(62)) + ";";
-            default: return "w" + two(draw(13)) + "+" + draw(10) + ";";
+            case 5: return "l" + draw(5) + Check.two(draw(100)) + ";";
+            case 6: return "e" + Check.two(draw(62)) + ";";
+            default: return "w" + Check.two(draw(13)) + "+" + draw(10) + ";";
         }
     }
 
     private static String boat(int rings) {
-        return "b" + draw(6) + draw(10) + draw(rings) + draw(rings) + two(15 + draw(60))
-                + two(1 + draw(20)) + two(draw(2) == 0 ? draw(100) : 10 + draw(30)) + ";";
+        return "b" + draw(6) + draw(10) + draw(rings) + draw(rings) + Check.two(15 + draw(60))
+                + Check.two(1 + draw(20)) + Check.two(draw(2) == 0 ? draw(100) : 10 + draw(30)) + ";";
     }
 
     private static int tell(HangsAtLowWater x, PlainModel m, String text, String run) {
@@ -164,7 +160,7 @@ public final class AgainstPlainModelTest {
         StringBuilder text = new StringBuilder();
         int rings = 1 + draw(6);
         for (int i = 0; i < rings; i++) {
-            text.append("r").append(two(draw(100))).append(two(draw(61))).append(";");
+            text.append("r").append(Check.two(draw(100))).append(Check.two(draw(61))).append(";");
         }
         int calls = tell(x, m, text.toString(), run);
         text.setLength(0);

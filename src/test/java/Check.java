@@ -28,6 +28,11 @@ final class Check {
         }
     }
 
+    /** A number as its two digits. */
+    static String two(int v) {
+        return "" + (char) ('0' + v / 10) + (char) ('0' + v % 10);
+    }
+
     static int quay(HangsAtLowWater x, String text) {
         feed(x, text);
         return x.quay();
@@ -71,7 +76,7 @@ final class Check {
         }
     }
 
-    private static int[] refusals(HangsAtLowWater x) {
+    static int[] refusals(HangsAtLowWater x) {
         int[] counts = new int[6];
         for (int i = 0; i < counts.length; i++) {
             counts[i] = x.count(11 + i);
@@ -79,9 +84,9 @@ final class Check {
         return counts;
     }
 
-    /** All that can be asked for without a refusal. */
-    private static int[] all(HangsAtLowWater x) {
-        int[] rows = new int[12 + 24 + 12 + 35 + 3];
+    /** All that can be asked for without a refusal: less than a hundred calls. */
+    static int[] all(HangsAtLowWater x) {
+        int[] rows = new int[12 + 24 + 12 + 35 + 6];
         int n = 0;
         for (int what = 0; what <= 10; what++) {
             rows[n++] = x.count(what);
@@ -102,6 +107,7 @@ final class Check {
         }
         for (int ramp = 0; ramp < x.count(10); ramp++) {
             rows[n++] = x.slope(ramp, 0);
+            rows[n++] = x.open(ramp, 100);
         }
         return rows;
     }
