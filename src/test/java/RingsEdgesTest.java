@@ -55,6 +55,8 @@ public final class RingsEdgesTest {
         berths(Check.told(high + WELL + WELL), "one of two at the sixth", 1, 50);
         berths(Check.told(high + TOO_FAR + WELL), "the second at the sixth", 1, 50);
         berths(Check.told(high + WELL.repeat(5)), "one of five at the sixth", 1, 53210);
+        berths(Check.told(high + WELL + TOO_FAR), "the first at the sixth", 1, 5);
+        berths(Check.told(high + WELL + TOO_FAR.repeat(4)), "the first of five at the sixth", 1, 32105);
         HangsAtLowWater x = Check.told(high + WELL);
         x.tie(0, 5);
         berths(x, "where it is", 1, 5);
@@ -122,6 +124,9 @@ public final class RingsEdgesTest {
         // A tie and a pole: the pole NEEDS nothing anywhere, so the tie has the lowest RING.
         cheapest(Check.told("r1030;r1023;b3000050105;" + WELL), "the pole leaves the lower RING", 1, 10);
         cheapest(Check.told("r1023;r1030;b3000050105;" + WELL), "the pole goes to the higher RING", 1, 1);
+        String high = "r1060;r2060;r3060;r4060;r5060;r6022;";
+        cheapest(Check.told(high + WELL + "b3000050105;"), "the first at the sixth", 0, 5);
+        cheapest(Check.told(high + WELL + WELL), "either at the sixth: the second", 38, 50);
         HangsAtLowWater x = Check.told("r1030;r1023;" + WELL);
         x.set(0, 0);
         cheapest(x, "an EDGE does not count", 1, 1);
